@@ -510,7 +510,9 @@ public final class CobolParser {
             if (base + CELLS > cells.length) {
                 cells = Arrays.copyOf(cells, 2 * cells.length);
             }
-            Arrays.fill(cells, base, base + CELLS, NONE);
+            for (int cell = 0; cell < CELLS; cell++) {
+                cells[base + cell] = NONE;
+            }
             cells[base + KIND] = kind;
             cells[base + VALUE] = value;
             cells[base + PLACE] = place;
