@@ -934,7 +934,10 @@ public final class CobolParser {
         }
     }
 
-    /** Sums and conditions; what is read is handed back, to be put in its place by the caller. */
+    /**
+     * Sums and conditions; what is read is handed back, to be put in its place by the caller. What calls itself is
+     * private, here and in Statements, though the classes beside it begin the calls.
+     */
     private static final class Expressions {
         private static final int HOW_EQUAL = 0;
         private static final int HOW_LESS = 1;
@@ -953,7 +956,7 @@ public final class CobolParser {
             this.leaves = leaves;
         }
 
-        int sum(int nesting) {
+        private int sum(int nesting) {
             int left = product(nesting);
             for (int i = 0; i < MOST_WORDS && (row.isSign(SIGN_PLUS, 0) || row.isSign(SIGN_MINUS, 0)); i++) {
                 int made = join(Node.ARITHMETIC, row.value(), left);
@@ -988,7 +991,7 @@ public final class CobolParser {
             return leaves.operand();
         }
 
-        int condition(int nesting) {
+        private int condition(int nesting) {
             subject = NONE;
             int first = conjunction(nesting);
             if (!row.isReserved(Reserved.OR, 0)) {
@@ -1129,7 +1132,7 @@ public final class CobolParser {
         }
 
         // A SENTENCE and a LIST differ in their kind and in how deep they stand alone.
-        int list(int kind, int nesting) {
+        private int list(int kind, int nesting) {
             if (!isNext()) {
                 row.refuse(FAULT_BAD_WORD);
             }

@@ -143,6 +143,9 @@ public final class DivisionTest {
         Cobol.dueFaults("ID DIVISION . FUNCTION-ID n1 . END PROGRAM n1 .", "1@7");
         Cobol.dueFaults(P + "END FUNCTION n1 .", "1@7");
         Cobol.dueFaults(P + "END n1 .", "1@7");
+        Cobol.dueFaults("END n1 .", "1@0");
+        Cobol.dueFaults("ID DIVISION . END n1 .", "1@3 1@6");
+        Cobol.dueFaults("ID DIVISION . END", "1@3 1@4");
     }
 
     private static void divisionAnswers() {

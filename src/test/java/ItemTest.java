@@ -44,6 +44,9 @@ public final class ItemTest {
         Cobol.dueFaults(W + "1 REDEFINES 2 .", "1@14");
         Cobol.dueFaults(W + "1 USAGE IS IS .", "1@15");
         Cobol.dueFaults(W + "1 TIMES .", "1@13");
+        Cobol.dueFaults(W + "1 19 t1 .", "1@13");
+        Cobol.dueFaults(W + "1 n1 n26 n2 .", "1@14");
+        Cobol.dueFaults(W + "1 n1 t20 3 .", "1@14");
         Cobol.dueFaults(W + "1 MOVE .", "1@13");
         Cobol.dueFaults(W + "1 n1 PIC t1", "1@16");
     }
