@@ -1,3 +1,5 @@
+import java.util.List;
+
 /**
  * The document read sentence by sentence: each one that names a boundary case (too small, too large, empty, full, a
  * refused call) has a method of its own, with the sentence above it.
@@ -35,6 +37,7 @@ public final class BoundaryTest {
         fullRow();
         periodsOfAnyValue();
         noneAreLeft();
+        endsOfRows();
     }
 
     // "An object is used for at most 512 calls": the longest row that such a run can hold.
@@ -99,6 +102,33 @@ public final class BoundaryTest {
         Cobol.due("faults are of these words alone", Cobol.faults(parser), "1@2");
         Cobol.due("parse() of no words", parser.parse(), 0);
         Cobol.due("faults of no words", parser.faults(), 0);
+    }
+
+    // The same: what an earlier row had behind the end of a later one is not seen there, whatever the row's length.
+    private static void endsOfRows() {
+        String source = B + "IF n1 = 1 OR n2 NOT > 3 AND ( n4 IS LESS THAN 5 ) MOVE 1 TO n1 n2 ELSE NEXT SENTENCE END-IF . "
+            + "COMPUTE n1 = 2 + 3 * ( n4 - 5 ) END-COMPUTE PERFORM n1 THRU n2 3 TIMES PERFORM n1 n2 TIMES "
+            + "ADD 1 n1 TO n2 n3 SIZE ERROR GO TO n1 END-ADD DISPLAY n1 2 t3 . END PROGRAM n1 .";
+        List<int[]> words = Cobol.words(source);
+        CobolParser used = new CobolParser();
+        for (int size = words.size(); size >= 0; size--) {
+            CobolParser fresh = new CobolParser();
+            Cobol.add(fresh, words.subList(0, size));
+            Cobol.parses(fresh);
+            Cobol.add(used, words);
+            Cobol.parses(used);
+            Cobol.add(used, words.subList(0, size));
+            Cobol.parses(used);
+            Cobol.due("faults of " + size + " words of " + source, Cobol.faults(used), Cobol.faults(fresh));
+            Cobol.due("tree of " + size + " words of " + source, Cobol.dump(used), Cobol.dump(fresh));
+        }
+        for (String last : new String[] {"IF n1", "IF NOT", "IF 1", "MOVE 1", "COMPUTE n1 = 1", "PERFORM n1", "END",
+            "DISPLAY 1", "n1", "EXIT"}) {
+            int ahead = 9 + Cobol.words(last).size() + 1;
+            for (int size : new int[] {32, 63, 64, 65, 127, 128, 129, 255, 256, 257, 500, 1499, 1500}) {
+                Cobol.dueFaults(B + times(size - ahead, "EXIT ") + ". " + last, "1@" + size);
+            }
+        }
     }
 
     private static void clausesAndStates() {
