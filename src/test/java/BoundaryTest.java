@@ -375,7 +375,9 @@ public final class BoundaryTest {
         Cobol.dueTree(W + "1 . 2 . 77 . 77 . 1 . 2 .",
             w + "12:1000@12(12:2000@14) 12:77000@16 12:77000@18 12:1000@20(12:2000@22))))");
         Cobol.dueFaults(W + "77 . 2 . 49 .", "1@14 1@16");
+        // A 77 ends those ahead of it: only so may the latest one of a lesser level be one that is not open.
         Cobol.dueFaults(W + "1 . 77 . 2 .", "1@16");
+        Cobol.dueFaults(W + "1 . 5 . 77 . 10 . 88 .", "1@18");
         StringBuilder all = new StringBuilder();
         for (int level = 1; level <= 49; level++) {
             all.append(level).append(" . ");

@@ -123,7 +123,7 @@ public final class GeneratedTest {
     }
 
     /** A node that is due. */
-    private static final class Part {
+    static final class Part {
         final int kind;
         final int value;
         int place;
@@ -172,7 +172,7 @@ public final class GeneratedTest {
     }
 
     /** Writes words and the parts they make. */
-    private static final class Maker {
+    static final class Maker {
         final Random random;
         final List<int[]> words = new ArrayList<>();
         final List<String> written = new ArrayList<>();
